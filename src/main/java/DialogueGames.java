@@ -1071,7 +1071,7 @@ public final class DialogueGames {
     private static final class Search {
         private static final int LIMIT = 300;
         private static final int PLACES = 1024;
-        private static final int FIRST_ROOM = 1024;
+        private static final int FIRST_ROOM = 2048;
 
         private final Formulas formulas;
         private final Board board;
