@@ -512,43 +512,41 @@ public final class DialogueGames {
             }
         }
 
-        /** Passes FULL on, so that calls can be nested. */
         int negationOf(int formula) {
-            return has(formula) ? make(NEGATION, formula, NO_PART) : FULL;
+            return make(NEGATION, formula, NO_PART);
         }
 
-        /** Passes FULL on, so that calls can be nested. */
-        int joinOf(int kind, int first, int second) {
-            return has(first) && has(second) ? make(kind, first, second) : FULL;
-        }
-
+        /** Answers FULL also for parts that are not there, so that calls can be nested. */
         int make(int kind, int first, int second) {
+            boolean single = kind == NEGATION;
+            if (!has(first) || (!single && !has(second))) {
+                return FULL;
+            }
+            int existing = find(kind, first, second);
+            if (existing >= 0) {
+                return existing;
+            }
+            if (count >= CAPACITY) {
+                return FULL;
+            }
+            int added = count;
+            kinds[added] = kind;
+            firsts[added] = first;
+            seconds[added] = second;
+            sizes[added] = Math.min(MAX_SIZE, 1 + sizes[first] + (single ? 0 : sizes[second]));
+            tables[added] = tableOf(kind, tables[first], single ? 0 : tables[second]);
+            subsets[added] = (1L << added) | subsets[first] | (single ? 0L : subsets[second]);
+            count = added + 1;
+            return added;
+        }
+
+        private int find(int kind, int first, int second) {
             for (int k = ATOMS; k < count; k++) {
                 if (kinds[k] == kind && firsts[k] == first && seconds[k] == second) {
                     return k;
                 }
             }
-            if (count >= CAPACITY) {
-                return FULL;
-            }
-            store(kind, first, second);
-            return count - 1;
-        }
-
-        private void store(int kind, int first, int second) {
-            if (!has(first) || count >= CAPACITY) {
-                return;
-            }
-            // a negation counts its only part once
-            boolean two = has(second);
-            int added = count;
-            kinds[added] = kind;
-            firsts[added] = first;
-            seconds[added] = second;
-            sizes[added] = Math.min(MAX_SIZE, 1 + sizes[first] + (two ? sizes[second] : 0));
-            tables[added] = tableOf(kind, tables[first], two ? tables[second] : 0);
-            subsets[added] = (1L << added) | subsets[first] | (two ? subsets[second] : 0L);
-            count = added + 1;
+            return NO_PART;
         }
 
         private static int tableOf(int kind, int first, int second) {
@@ -698,10 +696,8 @@ public final class DialogueGames {
                 return;
             }
             operandCount -= needed;
-            int first = operands[operandCount];
-            int made = needed == 1
-                ? formulas.negationOf(first)
-                : formulas.joinOf(kind, first, operands[operandCount + 1]);
+            int second = needed == 1 ? Formulas.NO_PART : operands[operandCount + 1];
+            int made = formulas.make(kind, operands[operandCount], second);
             if (made < 0) {
                 full = true;
             }
@@ -795,11 +791,11 @@ public final class DialogueGames {
                 case DOUBLE:
                     return formulas.negationOf(formulas.negationOf(formula));
                 case COMMUTE:
-                    return formulas.joinOf(formulas.kindOf(formula), second, first);
+                    return formulas.make(formulas.kindOf(formula), second, first);
                 case CONTRAPOSE: {
                     int left = formulas.negationOf(second);
                     int right = formulas.negationOf(first);
-                    return formulas.joinOf(Formulas.IMPLICATION, left, right);
+                    return formulas.make(Formulas.IMPLICATION, left, right);
                 }
                 default:
                     Arrays.fill(images, Formulas.NO_PART);
@@ -836,10 +832,10 @@ public final class DialogueGames {
             }
             int right = translate(formulas.secondOf(formula), depth + 1);
             if (!disjoined) {
-                return formulas.joinOf(kind, left, right);
+                return formulas.make(kind, left, right);
             }
             right = formulas.negationOf(right);
-            return formulas.negationOf(formulas.joinOf(Formulas.CONJUNCTION, left, right));
+            return formulas.negationOf(formulas.make(Formulas.CONJUNCTION, left, right));
         }
     }
 

@@ -430,6 +430,8 @@ public final class PromiseTest {
         due("p15 double", transform(x, "double", 1), 6);
         due("p15 double has ~q", x.part(6, 0), 5);
         int f = x.combine(2, 0, 1);
+        due("p15 double a conjunction", transform(x, "double", f), f + 2);
+        due("p15 by two negations", x.part(x.part(f + 2, 0), 0), f);
         int g = transform(x, "commute", f);
         due("p15 commute", x.kind(g), 2);
         due("p15 commute A", x.part(g, 0), 1);
@@ -542,6 +544,10 @@ public final class PromiseTest {
         due("p16 formula first", x.rank(4, 2), -2);
         due("p16 manner 2", x.rank(0, 2), -1);
         due("p16 manner -1", x.rank(0, -1), -1);
+        int nested = parse(x, "(q>q)&((q>q)&(q>q))");
+        due("p16 one start leads to the other", x.rank(nested, 0), 3);
+        due("p16 one start leads to the other", x.rank(nested, 1), 3);
+        x.reset();
         int full = parse(x, FULL_SEARCH);
         due("p16 300 positions", x.rank(full, 0), 5);
         due("p16 300 positions", x.rank(full, 1), 5);
@@ -762,6 +768,12 @@ public final class PromiseTest {
         x.takeBack();
         due("p24 the last reply claims q", x.play(0, 1), 4);
         due("p24 claims q", x.claims() & 3, 2);
+        x.begin(parse(x, "r|s>p"), 0, 0);
+        x.play(0, 0);
+        due("p24 reply 0 claims A", x.claims() & 12, 4);
+        x.takeBack();
+        x.play(0, 1);
+        due("p24 reply 1 claims B", x.claims() & 12, 8);
     }
 
     private static void p25TakeBack() {
@@ -862,6 +874,12 @@ public final class PromiseTest {
         due("p28 the one without a rank", x.hardestReply(0), 1);
         x.begin(parse(x, "p|q>r"), 0, 0);
         due("p28 the first without a rank", x.hardestReply(0), 0);
+        x.begin(parse(x, "q&(p|q)>(r>r)"), 0, 0);
+        x.play(1, 0);
+        x.play(3, 0);
+        due("p28 the present position has its rank too", x.hardestReply(1), 0);
+        x.play(1, 1);
+        due("p28 for it came back", x.positionRank(), 2);
         x = new DialogueGames();
         x.begin(parse(x, BEYOND_SEARCH), 1, 0);
         due("p28 limit before move", x.hardestReply(99), -6);
@@ -889,6 +907,9 @@ public final class PromiseTest {
         due("p29 an error leaves the array", x.element(1, 2), 5);
         due("p29 a new one", x.allocate(1, 3, 3), 3);
         due("p29 is filled with 0", x.element(1, 2), 0);
+        x.allocate(1, 1, 3);
+        due("p29 longs are filled with 0", x.element(1, 2), 0);
+        x.allocate(1, 3, 3);
         x.putElement(1, 0, 1);
         x.compute(1, 0, 0, 0);
         x.allocate(1, 3, 3);
@@ -1012,6 +1033,10 @@ public final class PromiseTest {
         due("p33 NaN stays", x.element(3, 1), 0);
         x.compute(3, 1, 0, 0);
         due("p33 NaN by 0", x.element(3, 1), 0);
+        x.compute(3, 1, 0, -1);
+        due("p33 NaN by -1", x.element(3, 1), 0);
+        x.compute(3, 1, 1, 2);
+        due("p33 NaN by %", x.element(3, 1), 0);
     }
 
     private static void p33Remainder() {
