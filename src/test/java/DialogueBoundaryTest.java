@@ -29,6 +29,7 @@ public final class DialogueBoundaryTest {
         searchLimitOfFormulas();
         searchLimitTogether();
         searchLimitOfDialogues();
+        lastOf512Calls();
         details();
         rankChecks();
         positionCountChecks();
@@ -379,6 +380,24 @@ public final class DialogueBoundaryTest {
         }
     }
 
+    private static void lastOf512Calls() {
+        Bench.says("An object is used for at most 512 calls after it has been made.");
+        DialogueGames x = new DialogueGames();
+        Bench.due("bytes", x.append('p', 1), 1);
+        Bench.due("formula", x.parse(), 0);
+        Bench.due("formula", x.combine(2, 3, 1), 4);
+        Bench.due("formula", x.negate(2), 5);
+        Bench.due("formula", x.combine(2, 4, 5), 6);
+        Bench.due("formula", x.combine(2, 0, 3), 7);
+        Bench.due("formula", x.combine(3, 2, 0), 8);
+        Bench.due("formula", x.combine(2, 7, 8), 9);
+        Bench.due("formula", x.combine(2, 6, 9), 10);
+        Bench.due("formula", x.combine(3, 0, 3), 11);
+        Bench.due("the formula of 300 positions", x.combine(4, 10, 11), 12);
+        Bench.due("begin", x.begin(12, 0, 0), 3);
+        for (int calls = 13; calls <= 512; calls++) Bench.due("call " + calls, calls % 2 == 0 ? x.positionRank() : x.rank(12, 1), 5);
+    }
+
     private static void details() {
         Bench.says("An open defence stays open when it is claimed.");
         DialogueGames x = begun("p>q&r", 1, 0);
@@ -445,6 +464,7 @@ public final class DialogueBoundaryTest {
         Bench.due("none", x.manners(Bench.parse(x, "p>q")), 0);
         Bench.due("classical", x.manners(Bench.parse(x, "p|~p")), 1);
         Bench.due("both", x.manners(Bench.parse(x, "p>p")), 3);
+        // 2 cannot come: the classical manner only adds defences, so a rank in manner 0 is one in manner 1 too
         Bench.refused("in manner 0 alone", () -> begun(HAS_301_AND_219, 1, 0), y -> y.manners(y.formulaCount() - 1), -6);
         Bench.refused("in manner 1 alone", () -> begun(HAS_152_AND_301, 0, 0), y -> y.manners(y.formulaCount() - 1), -6);
         Bench.refused("in both", () -> begun(HAS_301, 0, 0), y -> y.manners(y.formulaCount() - 1), -6);
