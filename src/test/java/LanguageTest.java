@@ -1,34 +1,18 @@
+import com.sun.management.ThreadMXBean;
+import java.lang.management.ManagementFactory;
 import java.lang.reflect.Field;
 import java.lang.reflect.Method;
 import java.lang.reflect.Modifier;
 import java.nio.file.Files;
 import java.nio.file.Path;
-import java.util.Arrays;
+import java.util.Collections;
 import java.util.HashSet;
+import java.util.IdentityHashMap;
 import java.util.List;
 import java.util.Set;
-import java.util.TreeSet;
 
-/** The public face of the document, and those rules of LANGUAGE.md that can be seen from outside. */
-public final class FaceTest {
-    private static final String[] METHODS = {
-        "int reset()", "int formulaCount()", "int append(int,int)", "int clearInput()", "int parse()",
-        "int negate(int)", "int combine(int,int,int)", "int kind(int)", "int part(int,int)", "int size(int)",
-        "long subformulas(int)", "int truthTable(int)", "int isEquivalent(int,int)", "int transform(int)",
-        "int rank(int,int)", "int positionCount(int,int)", "int manners(int)", "int begin(int,int,int)",
-        "long claims()", "long defences()", "int moveCount()", "int move(int,int)", "int play(int,int)",
-        "int takeBack()", "int positionRank()", "int bestMove()", "int hardestReply(int)",
-        "int allocate(int,int,int)", "int release(int)", "int putElement(int,int,long)", "long element(int,int)",
-        "int compute(int,int,int,int)", "int copyElements(int,int,int,int,int)", "int replay(int,int,int)",
-    };
-
-    private static final String[] CONSTANTS = {
-        "int BAD_ARGUMENT = -1", "int NO_SUCH_FORMULA = -2", "int FULL = -3", "int BAD_INPUT = -4", "int NONE = -5",
-        "int LIMIT_EXCEEDED = -6", "int NOT_PLAYING = -7", "int EMPTY_SLOT = -11", "int WRONG_TYPE = -12",
-        "int INDEX_OUT_OF_RANGE = -13", "int NEGATIVE_SIZE = -14", "int WON = 1000",
-        "long NO_VALUE = -9223372036854775808",
-    };
-
+/** Those rules of LANGUAGE.md that can be seen from outside, and the room that an object takes. */
+public final class LanguageTest {
     /** Words that the rules leave no room for in this class, which throws and catches nothing. */
     private static final String[] FORBIDDEN = {
         "package ", "catch", "throw", "try", "finally", "->", "::", "synchronized", "assert", "Exact(", "instanceof",
@@ -45,7 +29,6 @@ public final class FaceTest {
     }
 
     public static void main(String[] args) throws Exception {
-        checkFace();
         Set<String> names = new HashSet<>();
         for (Method method : DialogueGames.class.getDeclaredMethods()) if (Modifier.isPublic(method.getModifiers())) names.add(method.getName());
         Class<?>[] inside = DialogueGames.class.getDeclaredClasses();
@@ -57,32 +40,9 @@ public final class FaceTest {
         }
         checkSource();
         checkRoom();
-        System.out.println(wrong == 0 ? "the face is as due" : wrong + " faults of the face");
+        checkMaking();
+        System.out.println(wrong == 0 ? "the rules that can be seen are kept" : wrong + " faults");
         if (wrong != 0) System.exit(1);
-    }
-
-    private static void checkFace() throws Exception {
-        Class<?> type = DialogueGames.class;
-        check(Modifier.isPublic(type.getModifiers()) && Modifier.isFinal(type.getModifiers()), "the class is not public and final");
-        check(type.getDeclaredConstructors().length == 1 && type.getConstructors().length == 1
-            && type.getConstructors()[0].getParameterCount() == 0, "the constructor is not as due");
-        Set<String> methods = new TreeSet<>();
-        for (Method method : type.getDeclaredMethods()) {
-            if (Modifier.isPrivate(method.getModifiers())) continue;
-            StringBuilder text = new StringBuilder(method.getReturnType() + " " + method.getName() + "(");
-            for (Class<?> parameter : method.getParameterTypes()) text.append(text.charAt(text.length() - 1) == '(' ? "" : ",").append(parameter);
-            methods.add(text + ")");
-            check(Modifier.isPublic(method.getModifiers()) && !Modifier.isStatic(method.getModifiers()), method + " is not a public method");
-        }
-        check(methods.equals(new TreeSet<>(Arrays.asList(METHODS))), "the methods are " + methods);
-        Set<String> constants = new TreeSet<>();
-        for (Field field : type.getDeclaredFields()) {
-            if (Modifier.isPrivate(field.getModifiers())) continue;
-            boolean constant = Modifier.isPublic(field.getModifiers()) && Modifier.isStatic(field.getModifiers()) && Modifier.isFinal(field.getModifiers());
-            check(constant, field + " is no public constant");
-            if (constant) constants.add(field.getType() + " " + field.getName() + " = " + field.get(null));
-        }
-        check(constants.equals(new TreeSet<>(Arrays.asList(CONSTANTS))), "the constants are " + constants);
     }
 
     private static void checkMembers(Class<?> type, Set<String> names) {
@@ -108,12 +68,60 @@ public final class FaceTest {
             for (String word : FORBIDDEN) check(!line.contains(word), "line " + (k + 1) + " has " + word);
             check(!line.startsWith("import ") || line.equals("import java.util.Arrays;"), "line " + (k + 1) + " imports something");
         }
+        checkLengths(lines);
+    }
+
+    /** Methods stay short: a method ends at the first brace that stands as far left as its head. */
+    private static void checkLengths(List<String> lines) {
+        int head = -1;
+        for (int k = 0; k < lines.size(); k++) {
+            String line = lines.get(k);
+            String body = line.stripLeading();
+            int left = line.length() - body.length();
+            boolean opens = (left == 4 || left == 8) && body.contains("(") && body.endsWith(") {") && !body.matches("(if|for|while|switch|\\}).*");
+            if (head < 0 && opens) head = k;
+            if (head >= 0 && body.equals("}") && left == lines.get(head).length() - lines.get(head).stripLeading().length()) {
+                check(k - head < 60, "the method of line " + (head + 1) + " has " + (k - head + 1) + " lines");
+                head = -1;
+            }
+        }
+    }
+
+    /** Calls make next to nothing, for all that a run makes is counted (one object is made before, as a warm-up). */
+    private static void checkMaking() {
+        ThreadMXBean threads = (ThreadMXBean) ManagementFactory.getThreadMXBean();
+        dearCalls(new DialogueGames());
+        DialogueGames x = new DialogueGames();
+        long before = threads.getCurrentThreadAllocatedBytes();
+        dearCalls(x);
+        long made = threads.getCurrentThreadAllocatedBytes() - before;
+        check(made < 100_000, "512 calls made " + made + " bytes");
+    }
+
+    private static void dearCalls(DialogueGames x) {
+        String text = "(((p&r)&(~p))&((q|q)&(s|q)))>(~(~(~p)))";
+        for (int k = 0; k < text.length(); k++) x.append(text.charAt(k), 1);
+        int formula = x.parse();
+        for (int slot = 0; slot < 4; slot++) x.allocate(slot, slot, 40);
+        for (int k = 0; k < 42; k++) {
+            x.rank(formula, k % 2);
+            x.positionCount(formula, k % 2);
+            x.manners(formula);
+            x.begin(formula, k % 2, 0);
+            x.play(k % 3, 0);
+            x.bestMove();
+            x.hardestReply(0);
+            x.replay(0, formula, k % 2);
+            x.allocate(1 + k % 3, k % 4, 40);
+            x.copyElements(0, 0, 0, 1, 39);
+            x.parse();
+        }
     }
 
     /** What an object holds must stay small, for all objects of a run live in one room. */
     private static void checkRoom() throws Exception {
         DialogueGames x = new DialogueGames();
-        long fresh = roomOf(x, new HashSet<>());
+        long fresh = roomOf(x, identities());
         check(fresh < 8_000, "a new object holds " + fresh + " fields and elements");
         for (char sign : "(((p&r)&(~p))&((q|q)&(s|q)))>(~(~(~p)))".toCharArray()) x.append(sign, 1);
         int formula = x.parse();
@@ -125,12 +133,16 @@ public final class FaceTest {
             x.append(126, 40);
             x.parse();
         }
-        long used = roomOf(x, new HashSet<>());
+        long used = roomOf(x, identities());
         check(used < 16_000, "a used object holds " + used + " fields and elements");
     }
 
-    private static long roomOf(Object object, Set<Integer> met) throws Exception {
-        if (object == null || !met.add(System.identityHashCode(object))) return 0;
+    private static Set<Object> identities() {
+        return Collections.newSetFromMap(new IdentityHashMap<>());
+    }
+
+    private static long roomOf(Object object, Set<Object> met) throws Exception {
+        if (object == null || !met.add(object)) return 0;
         Class<?> type = object.getClass();
         long room = 0;
         if (type.isArray()) {
