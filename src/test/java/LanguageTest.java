@@ -95,7 +95,7 @@ public final class LanguageTest {
         long before = threads.getCurrentThreadAllocatedBytes();
         dearCalls(x);
         long made = threads.getCurrentThreadAllocatedBytes() - before;
-        check(made < 100_000, "512 calls made " + made + " bytes");
+        check(made < 100_000, "some 500 dear calls made " + made + " bytes");
     }
 
     private static void dearCalls(DialogueGames x) {
